@@ -560,7 +560,7 @@ public final class StairCodes {
         if (place >= 8) {
             return 8 * word + place - 8;
         }
-        return bitNumber((word >> 3) - 1, place, word & 7);
+        return 64 * ((word >> 3) - 1) + 8 * place + (word & 7);
     }
 
     private static int bitOf(long bits, int place) {
@@ -710,19 +710,18 @@ public final class StairCodes {
 
         /** The PLACE; NONE: the WORD is not ODD; DOUBT: it is DOUBTED. */
         int placeToMend(int word, int byRule) {
-            if (!isOdd(word)) {
+            int check = checks[word];
+            if ((check & ODD) == 0) {
                 return NONE;
             }
-            int place = PLACE_OF_LABEL[checkOf(word)];
+            int place = PLACE_OF_LABEL[check & 15];
             int i = word >> 3;
-            if (place < 8) {
-                if (i == 1) {
-                    return DOUBT;
-                }
-                return byRule == 1 && isSound(8 * (i - 1) + place) ? DOUBT : place;
+            if (place < 8 && i == 1) {
+                return DOUBT;
             }
-            boolean breaksOther = i < blocks && isSound(8 * (i + 1) + place - 8);
-            return byRule == 1 && breaksOther ? DOUBT : place;
+            boolean hasOther = place < 8 || i < blocks;
+            int other = place < 8 ? 8 * (i - 1) + place : 8 * (i + 1) + place - 8;
+            return byRule == 1 && hasOther && checks[other] == 0 ? DOUBT : place;
         }
 
         /** MENDS are told to a JOURNAL; a trial has none (null). */
@@ -896,7 +895,8 @@ public final class StairCodes {
             int isStuck = 1;
             queued = 0;
             reach(start);
-            for (int next = 0; next < queued; next++) {
+            // each WORD is reached once, so that there are never more
+            for (int next = 0; next < queued && next < ALL_WORDS; next++) {
                 int word = queue[next];
                 // each BIT is in the ROW of one WORD
                 bits += Integer.bitCount(stairs.wrongRow(word));
